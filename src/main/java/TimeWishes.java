@@ -665,6 +665,9 @@ public final class TimeWishes {
 
         /** The form of this kind that is made of the n forms in the row; they are in their order already. */
         private int make(int what, int[] row, int from, int n) {
+            if (from < 0 || n > row.length - from) {
+                return FALSE;
+            }
             int hash = what;
             for (int i = 0; i < n; i++) {
                 hash = hash * 31 + row[from + i];
@@ -938,6 +941,9 @@ public final class TimeWishes {
                     form = forms.make(code & KIND_MASK, stack, lowest, n);
                 }
                 lowest += n - 1;
+                if (lowest < 0 || lowest >= MOST_SIZE) {
+                    return FALSE;
+                }
                 stack[lowest] = form;
             }
             return lowest < MOST_SIZE ? stack[lowest] : FALSE;
@@ -948,12 +954,12 @@ public final class TimeWishes {
             int size = forms.size[form];
             int held = 1;
             stack[0] = form;
-            for (int i = 0; i < size && held > 0; i++) {
+            for (int i = 0; i < size && i < MOST_SIZE && held > 0; i++) {
                 held--;
                 int id = stack[held];
                 int n = forms.number[id];
                 wish.codes[part * MOST_SIZE + i] = forms.kind[id] | (n << KIND_BITS);
-                for (int k = n - 1; k >= 0; k--) {
+                for (int k = n - 1; k >= 0 && held < MOST_SIZE; k--) {
                     stack[held] = forms.kid(id, k);
                     held++;
                 }
@@ -974,7 +980,7 @@ public final class TimeWishes {
                     spellBehindForm();
                 } else if (n == 1) {
                     write(what == NEXT ? 'X' : 'N');
-                } else {
+                } else if (openBrackets < MOST_SIZE) {
                     write('(');
                     separators[openBrackets] = SEPARATORS[what];
                     left[openBrackets] = n;

@@ -616,6 +616,8 @@ public final class PromiseTests {
         add(x, "Na");
         due("12: it came behind three events", x.wish(3, 8), 3);
         due("12: the others at first", x.wish(1, 8), 0);
+        x.keep();
+        due("12: that stays behind an act", x.restore() + x.wish(3, 8), 6);
         due("12: true if it ended now", x.wish(3, 6), 1);
         due("12: what below", x.wish(3, -1), TimeWishes.BAD_VALUE);
         due("12: what above", x.wish(3, 9), TimeWishes.BAD_VALUE);
