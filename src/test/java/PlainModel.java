@@ -484,7 +484,8 @@ final class PlainModel {
     }
 
     int count(int what) {
-        int[] told = {now.events.size(), now.ended ? 1 : 0, 0, now.wishes.size(), 0, 0, 0, history.size(), text.length()};
+        int[] told = {now.events.size(), now.ended ? 1 : 0, 0, now.wishes.size(), 0, 0, 0, history.size(),
+            text.length()};
         int[] ofVerdict = {5, 6, 4};
         for (Wish w : now.wishes) {
             told[2] += w.there ? 1 : 0;

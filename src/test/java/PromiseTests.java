@@ -1,82 +1,5 @@
-/** For each promise of the document its ordinary answers, its edges and its errors in their order, worked out by hand. */
-public final class PromiseTests {
-    private static int passed = 0;
-    private static int failed = 0;
-
-    private static void due(String what, long got, long want) {
-        due(what, Long.toString(got), Long.toString(want));
-    }
-
-    private static void due(String what, String got, String want) {
-        if (got.equals(want)) {
-            passed++;
-        } else {
-            failed++;
-            System.out.println(what + ": answered " + got + ", due is " + want);
-        }
-    }
-
-    private static void type(TimeWishes x, String text) {
-        x.clearText();
-        for (char c : text.toCharArray()) {
-            x.type(c);
-        }
-    }
-
-    private static int add(TimeWishes x, String text) {
-        type(x, text);
-        return x.addWish();
-    }
-
-    private static TimeWishes with(String... wishes) {
-        TimeWishes x = new TimeWishes();
-        for (String wish : wishes) {
-            add(x, wish);
-        }
-        return x;
-    }
-
-    private static void events(TimeWishes x, int... sets) {
-        for (int set : sets) {
-            x.event(set);
-        }
-    }
-
-    private static String text(TimeWishes x, int wish, int part) {
-        StringBuilder letters = new StringBuilder();
-        for (int i = 0; i < 400 && x.letter(wish, part, i) >= 0; i++) {
-            letters.append((char) x.letter(wish, part, i));
-        }
-        return letters.toString();
-    }
-
-    /** The texts of the parts, with a blank between two. */
-    private static String parts(TimeWishes x, int wish) {
-        StringBuilder texts = new StringBuilder();
-        for (int p = 0; p < x.wish(wish, 1); p++) {
-            texts.append(p > 0 ? " " : "").append(text(x, wish, p));
-        }
-        return texts.toString();
-    }
-
-    private static void reads(String typed, String form) {
-        TimeWishes x = with(typed);
-        due("the form of " + typed, parts(x, 0), form);
-    }
-
-    private static void becomes(String typed, int set, String form) {
-        TimeWishes x = with(typed);
-        x.event(set);
-        due("what event " + set + " makes of " + typed, parts(x, 0), form);
-    }
-
-    private static void faultIs(String typed, int fault) {
-        TimeWishes x = new TimeWishes();
-        due("the fault of " + typed, add(x, typed), -100 - fault);
-        due("no wish came of " + typed, x.count(3), 0);
-        due("no state came of " + typed, x.count(7), 0);
-    }
-
+/** For each promise of the document its ordinary answers, edges and errors in their order, worked out by hand. */
+public final class PromiseTests extends Checks {
     private static void newObject() {
         TimeWishes x = new TimeWishes();
         for (int what = 0; what <= 8; what++) {
@@ -823,8 +746,8 @@ public final class PromiseTests {
         open();
         at();
         count();
-        System.out.println("PromiseTests: " + passed + " passed, " + failed + " failed");
-        if (failed > 0) {
+        System.out.println("PromiseTests: " + passedSoFar() + " passed, " + failedSoFar() + " failed");
+        if (failedSoFar() > 0) {
             System.exit(1);
         }
     }

@@ -206,8 +206,109 @@ public final class RulesTests {
         holds("the room: calls keep nothing", Arrays.equals(before, room(x)));
     }
 
+    private static final int[] ARGUMENTS = {Integer.MIN_VALUE, Integer.MIN_VALUE + 1, -65536, -129, -2, -1, 0, 1, 2, 3,
+        7, 8, 9, 39, 40, 41, 60, 63, 64, 65, 119, 120, 121, 357, 358, 359, 360, 361, 959, 960, 961, 65535, 1 << 30,
+        Integer.MAX_VALUE - 1, Integer.MAX_VALUE};
+    private static final int STATES = 5;
+
+    private static void add(TimeWishes x, String text) {
+        x.clearText();
+        for (char c : text.toCharArray()) {
+            x.type(c);
+        }
+        x.addWish();
+    }
+
+    /** Eight parts of size 120, in a wish that is joined of others. */
+    private static TimeWishes large() {
+        TimeWishes x = new TimeWishes();
+        String part = "G".repeat(6) + "X".repeat(10);
+        add(x, part + "a&" + part + "b&" + part + "c");
+        add(x, part + "d&" + part + "e&" + part + "f");
+        add(x, part + "!a&" + part + "!b");
+        x.join(0, 1, false);
+        x.join(2, 3, false);
+        x.keep();
+        x.event(0);
+        return x;
+    }
+
+    /** 8 wishes, 40 events, 60 characters and 4 states. */
+    private static TimeWishes full() {
+        TimeWishes x = new TimeWishes();
+        for (int i = 0; i < 8; i++) {
+            add(x, i % 2 == 0 ? "GFa&Xb" : "Ga|Nb");
+        }
+        for (int i = 0; i < 40; i++) {
+            x.event(i);
+        }
+        x.keep();
+        add(x, "X".repeat(60));
+        return x;
+    }
+
+    private static TimeWishes state(int number) {
+        TimeWishes x = number == 0 ? new TimeWishes() : number == 1 ? full() : large();
+        if (number == 3) {
+            x.end();
+        } else if (number == 4) {
+            x.removeWish(0);
+            x.removeWish(4);
+        }
+        return x;
+    }
+
+    private static void callWith(TimeWishes x, int one, int other, int third) {
+        x.wish(one, other);
+        x.letter(one, other, third);
+        x.part(one, other, third);
+        x.would(one, other);
+        x.bears(one, other);
+        x.join(one, other, third > 0);
+        x.open(one);
+        x.at(other);
+        x.count(third);
+        x.event(one);
+        x.removeWish(one);
+        x.type((char) one);
+        x.undo();
+        x.restore();
+        if (third == 0) {
+            x.addWish();
+            x.keep();
+            x.clearText();
+            x.end();
+        }
+    }
+
+    private static void neverThrows() {
+        for (int number = 0; number < STATES; number++) {
+            String thrown = "";
+            TimeWishes x = state(number);
+            int calls = 0;
+            for (int one : ARGUMENTS) {
+                for (int other : ARGUMENTS) {
+                    for (int third : ARGUMENTS) {
+                        calls += 18;
+                        if (calls > 300) {
+                            x = state(number);
+                            calls = 18;
+                        }
+                        try {
+                            callWith(x, one, other, third);
+                        } catch (RuntimeException machine) {
+                            thrown = "with " + one + ", " + other + ", " + third + ": " + machine;
+                        }
+                    }
+                }
+            }
+            holds("7: no call throws in state " + number + " " + thrown, thrown.isEmpty());
+        }
+    }
+
     public static void main(String[] args) throws IOException, IllegalAccessException {
         face();
+        neverThrows();
         source(Path.of(args.length > 0 ? args[0] : "src/main/java/TimeWishes.java"));
         roomOfCalls();
         System.out.println("RulesTests: " + passed + " passed, " + failed + " failed");
