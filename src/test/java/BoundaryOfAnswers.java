@@ -260,6 +260,13 @@ final class BoundaryOfAnswers extends Sentences {
             due("what is left of it: signs", x.part(6, 1, 2), 2);
             due("what is left of a: no signs", x.part(0, 0, 2), 0);
             due("what is left of a: 1 is true at the end", x.part(0, 0, 3), 1);
+            x = with("a&Gb", "Fa&Gb");
+            x.event(2);
+            x.end();
+            due("behind the end: (0Rb), left of a broken wish", x.part(0, 0, 0) * 10 + x.part(0, 0, 3), 31);
+            due("0, by which it was broken", x.part(0, 1, 0) * 10 + x.part(0, 1, 3), 10);
+            due("1, which (0Rb) became by the end", x.part(1, 0, 0) * 10 + x.part(1, 0, 3), 11);
+            due("0, which (1Ua) became by the end", x.part(1, 1, 0) * 10 + x.part(1, 1, 3), 10);
         });
         sentence("Returns the number; UNKNOWN (wish or part); BAD_VALUE.", () -> {
             TimeWishes x = with("a&b", "c");

@@ -29,6 +29,22 @@ final class BoundaryOfForms extends Sentences {
         x.wish(0, 0);
         x.event(Integer.MIN_VALUE);
         x.undo();
+        dearCalls();
+    }
+
+    /** 56 calls make three parts of size 120; what is asked then 76 times has the same answers up to call 512. */
+    private static void dearCalls() {
+        String part = times(6, "G") + times(10, "X");
+        TimeWishes x = with(part + "a&" + part + "b&" + part + "c");
+        due("call 56", x.event(0), 0);
+        for (int i = 0; i < 76; i++) {
+            due("any event leaves it open", x.bears(0, 0), 64);
+            due("also that with all signs", x.would(0, 63), 2);
+            due("its third part is false at the end", x.part(0, 2, 3), 0);
+            due("so it would be broken", x.wish(0, 6), 0);
+            due("> and three times seven more forms have no room", x.join(0, 0, true), TimeWishes.FULL);
+            due("its first letter", x.letter(0, 0, 0), 40);
+        }
     }
 
     private static void events() {
