@@ -150,9 +150,6 @@ public final class TimeWishes {
         if (now.ended) {
             return NOT_POSSIBLE;
         }
-        if (now.wishesSoFar >= MOST_WISHES) {
-            return FULL;
-        }
         forms.release(LEAVES);
         return bring(reader.read());
     }
@@ -165,9 +162,6 @@ public final class TimeWishes {
         }
         if (now.ended) {
             return NOT_POSSIBLE;
-        }
-        if (now.wishesSoFar >= MOST_WISHES) {
-            return FULL;
         }
         forms.release(LEAVES);
         int firstForm = allOfParts(first);
@@ -396,10 +390,10 @@ public final class TimeWishes {
     private int bring(int form) {
         boolean several = forms.kind[form] == ALL;
         int parts = several ? forms.number[form] : 1;
-        if (parts > MOST_PARTS) {
+        int wish = now.wishesSoFar;
+        if (wish >= MOST_WISHES || parts > MOST_PARTS) {
             return FULL;
         }
-        int wish = now.wishesSoFar;
         spare.copyFrom(now);
         Wish one = spare.wishes[wish];
         for (int p = 0; p < parts; p++) {
@@ -651,7 +645,7 @@ public final class TimeWishes {
         }
 
         private int kid(int form, int index) {
-            return kids[start[form] + index];
+            return index >= 0 && index < number[form] ? kids[start[form] + index] : FALSE;
         }
 
         /** Forgets the forms from this number on. */
@@ -719,8 +713,8 @@ public final class TimeWishes {
                 int kid = kids[i];
                 total += size[kid];
                 has |= signs[kid];
-                allTrue &= trueAtEnd[kid];
-                anyTrue |= trueAtEnd[kid];
+                allTrue = allTrue && trueAtEnd[kid];
+                anyTrue = anyTrue || trueAtEnd[kid];
             }
             size[id] = total;
             signs[id] = has;

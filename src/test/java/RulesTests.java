@@ -122,11 +122,20 @@ public final class RulesTests {
         while (library.find()) {
             holds("4: " + library.group(), library.group().equals("System.arraycopy"));
         }
+        Matcher named = Pattern.compile("\\bboolean(?:\\[\\])? (\\w+)").matcher(code);
+        while (named.find()) {
+            holds("10: && and || alone on " + named.group(1), !joinsByBits(code, named.group(1)));
+        }
         for (String line : code.split("\n")) {
             holds("lines of 120 characters", line.length() <= 120);
         }
         holds("12: only constructors and fields make things", Pattern.compile("\\bnew ").matcher(code).results()
             .allMatch(found -> isMadeAtFirst(code, found.start())));
+    }
+
+    private static boolean joinsByBits(String code, String name) {
+        return Pattern.compile("\\b" + name + "\\b(\\[\\w+\\]|\\([^()]*\\))? *([&|^]=|[&|^](?![&|]))"
+            + "|(?<![&|])[&|^]=? *!?\\b" + name + "\\b").matcher(code).find();
     }
 
     private static boolean isMadeAtFirst(String code, int place) {
